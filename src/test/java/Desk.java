@@ -1,0 +1,62 @@
+import java.nio.charset.StandardCharsets;
+import java.util.Arrays;
+
+/** A NumberDesk that takes and gives texts, and counts the answers that are not as due. */
+final class Desk {
+    private static int checks = 0;
+    private static int wrong = 0;
+
+    final NumberDesk desk = new NumberDesk();
+
+    /** Sets REGISTER r by feed, end and put. */
+    Desk set(int r, String text) {
+        byte[] bytes = text.getBytes(StandardCharsets.ISO_8859_1);
+        byte[] padded = Arrays.copyOf(bytes, (bytes.length + 19) / 20 * 20);
+        for (int i = 0; i < padded.length; i += 20) {
+            desk.feed(word(padded, i), word(padded, i + 4), word(padded, i + 8),
+                    word(padded, i + 12), word(padded, i + 16));
+        }
+        due("end for " + text, desk.end(bytes.length), bytes.length);
+        due("put for " + text, desk.put(r), bytes.length);
+        return this;
+    }
+
+    String text(int r) {
+        StringBuilder text = new StringBuilder();
+        for (int i = 0; i < desk.size(r); i++) {
+            text.append((char) desk.at(r, i));
+        }
+        return text.toString();
+    }
+
+    /** What a call made of REGISTER r: its text if the answer is its size, else the answer. */
+    String made(int answer, int r) {
+        if (answer < 0) {
+            return Integer.toString(answer);
+        }
+        return answer == desk.size(r) ? text(r) : "answer " + answer + " but size " + desk.size(r);
+    }
+
+    private static int word(byte[] bytes, int i) {
+        return (bytes[i] & 255) << 24 | (bytes[i + 1] & 255) << 16 | (bytes[i + 2] & 255) << 8 | bytes[i + 3] & 255;
+    }
+
+    static void due(String call, long got, long want) {
+        due(call, Long.toString(got), Long.toString(want));
+    }
+
+    static void due(String call, String got, String want) {
+        checks++;
+        if (!got.equals(want)) {
+            wrong++;
+            System.out.println(call + " answered " + got + ", due is " + want);
+        }
+    }
+
+    static void finish() {
+        System.out.println(wrong == 0 ? checks + " answers are as due" : wrong + " of " + checks + " answers are not as due");
+        if (wrong != 0 || checks == 0) {
+            System.exit(1);
+        }
+    }
+}
