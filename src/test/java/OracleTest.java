@@ -32,7 +32,22 @@ public final class OracleTest {
             layout(d, call, a, digits);
             compare(d, call, a, b, digits);
         }
+        powers();
         Desk.finish();
+    }
+
+    // Few digits, and sizes at which WORK changes: here a digit of WORK more or less shows.
+    private static void powers() {
+        int[] sizes = {1, 2, 3, 8, 9, 10, 11, 98, 99, 100, 101, 511, 512, 998, 999};
+        for (int i = 0; i < 20000; i++) {
+            int digits = 1 + RANDOM.nextInt(4);
+            String a = "1." + run(6);
+            String b = pick("", "-") + sizes[RANDOM.nextInt(sizes.length)];
+            Desk d = new Desk().set(0, a).set(1, b);
+            d.desk.digits(digits);
+            String want = power(rounded(read(a), digits), rounded(read(b), digits), digits, 0);
+            Desk.due(a + " ** " + b + " by " + digits, d.made(d.desk.work(6, 0, 1, 2), 2), want);
+        }
     }
 
     private static void binary(Desk d, String call, String a, String b, int digits, int form) {
