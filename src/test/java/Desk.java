@@ -21,18 +21,42 @@ final class Desk {
         return this;
     }
 
+    /** A new desk with so many DIGITS. */
+    static Desk by(int digits) {
+        Desk d = new Desk();
+        due("digits " + digits, d.desk.digits(digits), 1);
+        return d;
+    }
+
+    /** A new desk with so many DIGITS and FORM 1. */
+    static Desk engineeringBy(int digits) {
+        Desk d = by(digits);
+        due("form 1", d.desk.form(1), 1);
+        return d;
+    }
+
+    /** A new desk with 1 in each REGISTER. */
+    static Desk ones() {
+        Desk d = new Desk();
+        for (int r = 0; r <= 9; r++) {
+            d.set(r, "1");
+        }
+        return d;
+    }
+
     String text(int r) {
         StringBuilder text = new StringBuilder();
-        for (int i = 0; i < desk.size(r); i++) {
+        int size = desk.size(r);
+        for (int i = 0; i < size; i++) {
             text.append((char) desk.at(r, i));
         }
         return text.toString();
     }
 
-    /** What a call made of REGISTER r: its text if the answer is its size, else the answer. */
+    /** What a call made of REGISTER r: its text if the answer is its size, else NONE or a FAULT. */
     String made(int answer, int r) {
         if (answer < 0) {
-            return Integer.toString(answer);
+            return answer == NumberDesk.NONE ? "NONE" : "FAULT " + -answer;
         }
         return answer == desk.size(r) ? text(r) : "answer " + answer + " but size " + desk.size(r);
     }

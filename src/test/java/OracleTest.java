@@ -23,17 +23,22 @@ public final class OracleTest {
             String b = RANDOM.nextInt(4) == 0 ? near(a) : RANDOM.nextInt(3) == 0 ? small() : text();
             int digits = 1 + RANDOM.nextInt(20);
             int form = RANDOM.nextInt(2);
-            Desk d = new Desk().set(0, a).set(1, b);
-            d.desk.digits(digits);
-            d.desk.form(form);
             String call = "<" + a + "> <" + b + "> by " + digits + " form " + form;
-            binary(d, call, a, b, digits, form);
-            unary(d, call, a, digits, form);
-            layout(d, call, a, digits);
-            compare(d, call, a, b, digits);
+            binary(desk(a, b, digits, form), call, a, b, digits, form);
+            unary(desk(a, b, digits, form), call, a, digits, form);
+            layout(desk(a, b, digits, form), call, a, digits);
+            compare(desk(a, b, digits, form), call, a, b, digits);
         }
         powers();
         Desk.finish();
+    }
+
+    // One for each kind of call, as nothing is promised of an object after its 512th call.
+    private static Desk desk(String a, String b, int digits, int form) {
+        Desk d = new Desk().set(0, a).set(1, b);
+        d.desk.digits(digits);
+        d.desk.form(form);
+        return d;
     }
 
     // Few digits, and sizes at which WORK changes: here a digit of WORK more or less shows.
@@ -56,26 +61,26 @@ public final class OracleTest {
         for (int op = 0; op < 7; op++) {
             Desk.due("work " + op + " " + call, d.made(d.desk.work(op, 0, 1, 2), 2), work(op, x, y, digits, form));
         }
-        String greater = x == null || y == null ? "-41" : written(x.compareTo(y) >= 0 ? x : y, digits, form);
-        String lesser = x == null || y == null ? "-41" : written(x.compareTo(y) <= 0 ? x : y, digits, form);
+        String greater = x == null || y == null ? "FAULT 41" : written(x.compareTo(y) >= 0 ? x : y, digits, form);
+        String lesser = x == null || y == null ? "FAULT 41" : written(x.compareTo(y) <= 0 ? x : y, digits, form);
         Desk.due("greater " + call, d.made(d.desk.most(0, 1, 3, false), 3), greater);
         Desk.due("lesser " + call, d.made(d.desk.most(0, 1, 3, true), 3), lesser);
     }
 
     private static String work(int op, BigDecimal x, BigDecimal y, int digits, int form) {
         if (x == null || y == null) {
-            return "-41";
+            return "FAULT 41";
         }
         if (op >= 3 && op <= 5 && y.signum() == 0) {
-            return "-42";
+            return "FAULT 42";
         }
         return switch (op) {
             case 0 -> written(rounded(plus(x, y), digits), digits, form);
             case 1 -> written(rounded(plus(x, y.negate()), digits), digits, form);
             case 2 -> written(rounded(x.multiply(y), digits), digits, form);
             case 3 -> written(quotient(x, y, digits), digits, form);
-            case 4 -> tooLong(x, y, digits) ? "-26" : written(new BigDecimal(part(x, y)), digits, form);
-            case 5 -> tooLong(x, y, digits) ? "-26" : written(rounded(rest(x, y), digits), digits, form);
+            case 4 -> tooLong(x, y, digits) ? "FAULT 26" : written(new BigDecimal(part(x, y)), digits, form);
+            case 5 -> tooLong(x, y, digits) ? "FAULT 26" : written(rounded(rest(x, y), digits), digits, form);
             default -> power(x, y, digits, form);
         };
     }
@@ -105,13 +110,13 @@ public final class OracleTest {
     private static String power(BigDecimal x, BigDecimal y, int digits, int form) {
         int n = whole(y);
         if (n < -999 || n > 999) {
-            return "-26";
+            return "FAULT 26";
         }
         if (n == 0) {
             return "1";
         }
         if (x.signum() == 0) {
-            return n < 0 ? "-42" : "0";
+            return n < 0 ? "FAULT 42" : "0";
         }
         String bits = Integer.toBinaryString(Math.abs(n));
         int most = digits + 1 + Integer.toString(Math.abs(n)).length();
@@ -128,10 +133,10 @@ public final class OracleTest {
         BigDecimal exact = read(a);
         BigDecimal x = rounded(exact, digits);
         boolean is = x != null;
-        Desk.due("turn 0 " + call, d.made(d.desk.turn(0, 0, 4), 4), is ? written(x, digits, form) : "-41");
-        Desk.due("turn 1 " + call, d.made(d.desk.turn(1, 0, 4), 4), is ? written(x.negate(), digits, form) : "-41");
-        Desk.due("turn 2 " + call, d.made(d.desk.turn(2, 0, 4), 4), is ? written(x.abs(), digits, form) : "-41");
-        Desk.due("turn 3 " + call, d.made(d.desk.turn(3, 0, 4), 4), is ? Integer.toString(x.signum()) : "-41");
+        Desk.due("turn 0 " + call, d.made(d.desk.turn(0, 0, 4), 4), is ? written(x, digits, form) : "FAULT 41");
+        Desk.due("turn 1 " + call, d.made(d.desk.turn(1, 0, 4), 4), is ? written(x.negate(), digits, form) : "FAULT 41");
+        Desk.due("turn 2 " + call, d.made(d.desk.turn(2, 0, 4), 4), is ? written(x.abs(), digits, form) : "FAULT 41");
+        Desk.due("turn 3 " + call, d.made(d.desk.turn(3, 0, 4), 4), is ? Integer.toString(x.signum()) : "FAULT 41");
         boolean some = is && exact.signum() != 0;
         Desk.due("about 0 " + call, d.desk.about(0, 0), is ? 1 : 0);
         Desk.due("about 1 " + call, d.desk.about(0, 1), some ? exact.precision() : 0);
@@ -144,7 +149,7 @@ public final class OracleTest {
         BigDecimal x = rounded(read(a), digits);
         int n = RANDOM.nextInt(30) == 0 ? RANDOM.nextInt(300) : RANDOM.nextInt(14) - 1;
         int m = RANDOM.nextInt(30) == 0 ? RANDOM.nextInt(300) : RANDOM.nextInt(25) - 1;
-        String cut = n < 0 ? "-1" : x == null ? "-41" : fitting(laid(x, n, RoundingMode.DOWN));
+        String cut = n < 0 ? "NONE" : x == null ? "FAULT 41" : fitting(laid(x, n, RoundingMode.DOWN));
         Desk.due("cut " + n + " " + call, d.made(d.desk.cut(0, n, 5), 5), cut);
         Desk.due("column " + m + ", " + n + " " + call, d.made(d.desk.column(0, m, n, 6), 6), column(x, m, n));
     }
@@ -154,18 +159,18 @@ public final class OracleTest {
     }
 
     private static String fitting(String text) {
-        return text.length() > 200 ? "-5" : text;
+        return text.length() > 200 ? "FAULT 5" : text;
     }
 
     private static String column(BigDecimal x, int m, int n) {
         if (x == null) {
-            return "-41";
+            return "FAULT 41";
         }
         String text = laid(x, n < 0 ? Math.max(0, x.scale()) : n, RoundingMode.HALF_UP);
         int point = text.indexOf('.');
         int ahead = point < 0 ? text.length() : point;
         if (m >= 0 && m < ahead) {
-            return "-40";
+            return "FAULT 40";
         }
         return fitting(" ".repeat(Math.max(0, m - ahead)) + text);
     }
@@ -223,7 +228,7 @@ public final class OracleTest {
             return "0";
         }
         if (Math.abs(exponent(x)) > 999) {
-            return "-42";
+            return "FAULT 42";
         }
         if (x.precision() - x.scale() <= digits && x.scale() <= 2 * digits) {
             return x.toPlainString();
