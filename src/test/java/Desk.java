@@ -3,10 +3,15 @@ import java.util.Arrays;
 
 /** A NumberDesk that takes and gives texts, and counts the answers that are not as due. */
 final class Desk {
+    private static final int CALLS_MOST = 512;
+    private static final int CALLS_OF_ONE_USE = 250;
+
     private static int checks = 0;
     private static int wrong = 0;
+    private static Desk used = new Desk();
 
     final NumberDesk desk = new NumberDesk();
+    private int calls = 0;
 
     /** Sets REGISTER r by feed, end and put. */
     Desk set(int r, String text) {
@@ -15,7 +20,9 @@ final class Desk {
         for (int i = 0; i < padded.length; i += 20) {
             desk.feed(word(padded, i), word(padded, i + 4), word(padded, i + 8),
                     word(padded, i + 12), word(padded, i + 16));
+            calls++;
         }
+        calls += 2;
         due("end for " + text, desk.end(bytes.length), bytes.length);
         due("put for " + text, desk.put(r), bytes.length);
         return this;
@@ -35,6 +42,20 @@ final class Desk {
         return d;
     }
 
+    /**
+     * A desk that earlier calls have used, with so many DIGITS and this FORM: what it answers must
+     * not depend on what they left behind. It is made anew before its calls can be too many.
+     */
+    static Desk used(int digits, int form) {
+        if (used.calls > CALLS_MOST - CALLS_OF_ONE_USE) {
+            used = new Desk();
+        }
+        used.calls += 3;
+        due("digits " + digits, used.desk.digits(digits), 1);
+        due("form " + form, used.desk.form(form), 1);
+        return used;
+    }
+
     /** A new desk with 1 in each REGISTER. */
     static Desk ones() {
         Desk d = new Desk();
@@ -47,6 +68,7 @@ final class Desk {
     String text(int r) {
         StringBuilder text = new StringBuilder();
         int size = desk.size(r);
+        calls += 1 + size;
         for (int i = 0; i < size; i++) {
             text.append((char) desk.at(r, i));
         }
@@ -58,6 +80,7 @@ final class Desk {
         if (answer < 0) {
             return answer == NumberDesk.NONE ? "NONE" : "FAULT " + -answer;
         }
+        calls++;
         return answer == desk.size(r) ? text(r) : "answer " + answer + " but size " + desk.size(r);
     }
 

@@ -25,13 +25,19 @@ public final class LayoutBoundsTest {
     }
 
     private static void cut(int digits, String a, int n, String want) {
+        String call = "cut " + a + " at " + n + " by " + digits;
         Desk d = Desk.by(digits).set(0, a);
-        Desk.due("cut " + a + " at " + n + " by " + digits, d.made(d.desk.cut(0, n, 1), 1), want);
+        Desk.due(call, d.made(d.desk.cut(0, n, 1), 1), want);
+        Desk used = Desk.used(digits, 0).set(0, a);
+        Desk.due(call, used.made(used.desk.cut(0, n, 1), 1), want);
     }
 
     private static void column(int digits, String a, int m, int n, String want) {
+        String call = "column " + a + ", " + m + ", " + n + " by " + digits;
         Desk d = Desk.by(digits).set(0, a);
-        Desk.due("column " + a + ", " + m + ", " + n + " by " + digits, d.made(d.desk.column(0, m, n, 1), 1), want);
+        Desk.due(call, d.made(d.desk.column(0, m, n, 1), 1), want);
+        Desk used = Desk.used(digits, 1).set(0, a);
+        Desk.due(call, used.made(used.desk.column(0, m, n, 1), 1), want);
     }
 
     private static String zeros(int n) {

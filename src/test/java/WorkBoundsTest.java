@@ -34,7 +34,12 @@ public final class WorkBoundsTest {
     }
 
     private static void due(int digits, String a, int op, String b, String want) {
-        Desk d = Desk.by(digits).set(0, a).set(1, b);
+        dueOn(Desk.by(digits), digits, a, op, b, want);
+        dueOn(Desk.used(digits, 0), digits, a, op, b, want);
+    }
+
+    private static void dueOn(Desk d, int digits, String a, int op, String b, String want) {
+        d.set(0, a).set(1, b);
         Desk.due(a + " " + NAMES[op] + " " + b + " by " + digits, d.made(d.desk.work(op, 0, 1, 2), 2), want);
     }
 

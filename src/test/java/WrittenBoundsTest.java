@@ -30,13 +30,18 @@ public final class WrittenBoundsTest {
     }
 
     private static void scientific(int digits, String text, String want) {
-        Desk d = Desk.by(digits).set(0, text);
-        Desk.due(text + " by " + digits, d.made(d.desk.turn(0, 0, 1), 1), want);
+        dueOn(Desk.by(digits), text, text + " by " + digits, want);
+        dueOn(Desk.used(digits, 0), text, text + " by " + digits, want);
     }
 
     private static void engineering(int digits, String text, String want) {
-        Desk d = Desk.engineeringBy(digits).set(0, text);
-        Desk.due(text + " by " + digits + ", ENGINEERING", d.made(d.desk.turn(0, 0, 1), 1), want);
+        dueOn(Desk.engineeringBy(digits), text, text + " by " + digits + ", ENGINEERING", want);
+        dueOn(Desk.used(digits, 1), text, text + " by " + digits + ", ENGINEERING", want);
+    }
+
+    private static void dueOn(Desk d, String text, String call, String want) {
+        d.set(0, text);
+        Desk.due(call, d.made(d.desk.turn(0, 0, 1), 1), want);
     }
 
     private static void bothForms(int digits, String text, String want) {
